@@ -213,8 +213,13 @@ public final class FellInField {
         if (!isPerson(one) || !isWithin(coins, 0, 999) || !isWithin(what, 0, 1)) {
             return VOID;
         }
-        wonder.seekFields(one, coins);
-        return what == 0 ? wonder.bestWorth : wonder.bestFields;
+        // A field that is not one's own makes it owe nothing, and one that is its own never pays it: so to buy
+        // never gains, and of like ones that which costs no coins and has no bits is best.
+        if (what == 1) {
+            return 0;
+        }
+        reckoning.reckonDebts();
+        return reckoning.worthOf(one);
     }
 
     public int sellOff(int one, int what) {
@@ -997,19 +1002,6 @@ public final class FellInField {
             return crying;
         }
 
-        /** What a fall is worth to one, owed less owing, if the field were that owner's. */
-        int worthIf(int fall, int owner, int one) {
-            if (owner < 0) {
-                return 0;
-            }
-            weigh(fall, owner, -1);
-            if (many == 0) {
-                return 0;
-            }
-            int crying = cryingOf(one);
-            return WISH / many * (owner == one ? crying - many : crying);
-        }
-
         /** Adds what a fall's finder owes by it to debts: how much in all. */
         int settle(int fall, int[] into) {
             int finder = land.ownerOf(land.fieldUnder(fall));
@@ -1191,7 +1183,6 @@ public final class FellInField {
     private static final class Wonder {
         int bestMinute;
         int bestWorth;
-        int bestFields;
         private final Land land;
         private final Reckoning reckoning;
         private final int[] finder = new int[Land.MOST_FALLS];
@@ -1199,7 +1190,6 @@ public final class FellInField {
         private final int[] most = new int[Land.MOST_FALLS];
         private final int[] many = new int[Land.MOST_FALLS];
         private final int[] own = new int[Land.MOST_FALLS];
-        private final int[] gain = new int[Land.MOST_FIELDS];
 
         Wonder(Land land, Reckoning reckoning) {
             this.land = land;
@@ -1302,66 +1292,12 @@ public final class FellInField {
             return sharers == 0 ? 0 : WISH / sharers * owns;
         }
 
-        /** A field's owner matters to the falls in it alone, so each field has a gain of its own. */
-        void seekFields(int one, int coins) {
-            int now = reckonGains(one);
-            int bestGain = 0;
-            int bestPrice = 0;
-            bestFields = 0;
-            for (int bits = 1; bits < 1 << land.fields; bits++) {
-                int price = priceFor(one, bits);
-                int gained = gainOf(bits);
-                boolean better = gained > bestGain || gained == bestGain && price < bestPrice;
-                if (price <= coins && better) {
-                    bestGain = gained;
-                    bestPrice = price;
-                    bestFields = bits;
-                }
-            }
-            bestWorth = now + bestGain;
-        }
-
-        private int reckonGains(int one) {
-            Arrays.fill(gain, 0);
-            int now = 0;
-            for (int fall = 0; fall < land.falls; fall++) {
-                int field = land.fieldUnder(fall);
-                int worth = reckoning.worthIf(fall, land.ownerOf(field), one);
-                now += worth;
-                if (field >= 0) {
-                    gain[field] += reckoning.worthIf(fall, one, one) - worth;
-                }
-            }
-            return now;
-        }
-
-        /** One's own fields are not for sale: a price beyond all coins. */
-        private int priceFor(int one, int bits) {
-            int price = 0;
-            for (int field = 0; field < land.fields; field++) {
-                if ((bits >> field & 1) != 0) {
-                    price += land.ownerOf(field) == one ? MINUTES : land.numbers[Land.FIELD_PRICE][field];
-                }
-            }
-            return price;
-        }
-
-        private int gainOf(int bits) {
-            int sum = 0;
-            for (int field = 0; field < land.fields; field++) {
-                if ((bits >> field & 1) != 0) {
-                    sum += gain[field];
-                }
-            }
-            return sum;
-        }
-
-        /** The fields by which one owes: given away they leave it owing nothing, and fewer never do. */
+        /** The fields by which one owes: given away they leave it owing nothing, fewer never do; NOT never comes. */
         int fieldsThatBurden(int one) {
             int bits = 0;
             for (int fall = 0; fall < land.falls; fall++) {
                 int field = land.fieldUnder(fall);
-                if (land.ownerOf(field) == one && reckoning.worthIf(fall, one, one) < 0) {
+                if (land.ownerOf(field) == one && reckoning.settle(fall, reckoning.debts) > 0) {
                     bits |= 1 << field;
                 }
             }

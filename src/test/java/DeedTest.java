@@ -110,6 +110,9 @@ public final class DeedTest {
     }
 
     private static void image() {
+        FellInField bare = new FellInField();
+        DUE.is("without fields", bare.image(), 0);
+        DUE.is("without fields", bare.back(), 0);
         FellInField x = night();
         DUE.is("none", x.back(), -5);
         x.find(0);
@@ -204,6 +207,32 @@ public final class DeedTest {
             DUE.is("PRICE", x.of(0, 5), 55 - left);
         }
         DUE.is("none", x.redo(), -5);
+        manyThings();
+    }
+
+    /** More changes than are kept, of several things: each is undone where it was done. */
+    private static void manyThings() {
+        FellInField x = new FellInField();
+        for (int i = 0; i < 3; i++) {
+            x.field(0, 101);
+            x.cry(0, 0);
+        }
+        int[] numbers = {0, 1, 2};
+        int[] whats = {5, 11, 0, 13};
+        int[] was = new int[50];
+        for (int i = 0; i < 50; i++) {
+            was[i] = x.mend(numbers[i % 3], whats[i % 4], 1 + i % 9);
+            DUE.holds("a change", was[i] != 1 + i % 9);
+        }
+        for (int i = 49; i >= 10; i--) {
+            x.undo();
+            DUE.is("undone", x.of(numbers[i % 3], whats[i % 4]), was[i]);
+        }
+        DUE.is("none", x.undo(), -5);
+        for (int i = 10; i < 50; i++) {
+            x.redo();
+            DUE.is("done again", x.of(numbers[i % 3], whats[i % 4]), 1 + i % 9);
+        }
     }
 
     private static void undoAndDeeds() {

@@ -122,8 +122,10 @@ public final class LandTest {
         }
         Due.fill(x, 1, 1, 0, 0, 0, 20, 0, 0, 0, 0, 0);
         DUE.is("those ahead came", x.falls(1, 0, 3), 1);
+        x.row(1, 1, 3);
+        DUE.is("the row's very end", x.falls(1, 0, 1), 1);
         x.row(1, 1, 60);
-        DUE.is("till FULL", x.falls(1, 0, 10), 5);
+        DUE.is("till FULL", x.falls(1, 0, 10), 4);
         DUE.is("FULL", x.falls(1, 0, 10), 0);
         DUE.is("ten", x.count(1), 10);
     }

@@ -33,6 +33,8 @@ public final class LawTest {
         DUE.is("counted", x.counts(0), 60);
         DUE.is("a text of 120", Due.tell(x, "10" + "+1".repeat(59)), 1);
         DUE.is("counted", x.counts(0), 69);
+        DUE.is("a text of 120, each byte a sign", Due.tell(x, "-1" + "+1".repeat(59)), 1);
+        DUE.is("counted", x.counts(0), 58);
         DUE.is("a text of 120 lines", Due.tell(x, "0?2;".repeat(29) + "!!!7"), 1);
         DUE.is("counted", x.counts(0), 0);
         DUE.is("wholly numbers", Due.tell(x, "1<2;".repeat(29) + "9999"), 1);
@@ -128,6 +130,7 @@ public final class LawTest {
         Object[][] due = {
             {"0?1", 0}, {"1?7", 7}, {"-1?7", 7}, {"0?1;5", 5}, {"0?1;0?2;3", 3}, {"0?1;1?2;3", 2}, {"5;6", 5}, {"0;6", 0},
             {"d?l;9", 9}, {"d=0?l;9", 5}, {"0?1;0?2", 0}, {"1?0;6", 0}, {"1&1?1|0;3", 1}, {"-3;4", -3},
+            {"!!!!!!1?((((((4))))));5", 4}, {"!!!!!1?1;0?1;!!!!!!5", 1},
         };
         for (Object[] d : due) {
             FellInField x = new FellInField();

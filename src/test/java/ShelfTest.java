@@ -115,6 +115,11 @@ public final class ShelfTest {
         DUE.is("a body", x.shift(5, 0, 0, 0, -1), -12);
         DUE.is("a body", x.shift(0, 0, 5, 0, 1), -12);
         DUE.is("unlike sorts", x.shift(0, 99, 2, 0, 1), -12);
+        x.row(4, 2, 3);
+        x.keep(4, 0);
+        DUE.is("a body where a row of that sort was", x.shift(4, 0, 0, 0, 1), -12);
+        DUE.is("a body where a row of that sort was", x.shift(0, 0, 4, 0, 1), -12);
+        x.keep(4, -1);
         int[][] noPlace = {{-1, 0, 1}, {0, -1, 1}, {0, 0, -1}, {5, 0, 1}, {0, 3, 1}, {4, 0, 2}, {0, 2, 2}, {0, 0, 4},
             {6, 0, 0}, {0, 4, 0}, {Integer.MAX_VALUE, 0, 1}, {0, Integer.MAX_VALUE, 3}, {1, 1, Integer.MAX_VALUE},
             {0, 0, Integer.MIN_VALUE}, {Integer.MIN_VALUE, 0, Integer.MIN_VALUE}, {3, 0, Integer.MAX_VALUE - 2}};
@@ -127,6 +132,7 @@ public final class ShelfTest {
         DUE.is("two", x.shift(0, 3, 1, 1, 2), 2);
         rowIs(x, 1, 11, 4, 5);
         rowIs(x, 0, 1, 2, 3, 4, 5);
+        DUE.is("the whole of itself", x.shift(0, 0, 0, 0, 5), 5);
         DUE.is("on, in itself", x.shift(0, 0, 0, 1, 4), 4);
         rowIs(x, 0, 1, 1, 2, 3, 4);
         DUE.is("back, in itself", x.shift(0, 1, 0, 0, 4), 4);

@@ -120,6 +120,10 @@ public final class ThoughtTest {
         DUE.is("who(5)", x.who(5), -1);
         DUE.is("who(-1)", x.who(-1), -1);
         quarrelIsOfTheLeastCries();
+        FellInField first = land(0);
+        first.fall(0, 100);
+        cries(first, 0, 500, 1, 100);
+        DUE.is("the first cry is one, too", first.who(3), -2);
     }
 
     private static void quarrelIsOfTheLeastCries() {
@@ -225,6 +229,15 @@ public final class ThoughtTest {
         DUE.is("no such what", x.bestCry(0, 2), -1);
         DUE.is("no such what", x.bestCry(0, -1), -1);
         DUE.is("nothing changed", x.of(0, 11), 600);
+        FellInField end = land(0);
+        end.fall(0, 999);
+        cries(end, 1, 5);
+        Due.tell(end, "!s&d=1");
+        DUE.is("999 at most", end.bestCry(0, 0), 0);
+        DUE.is("999 at most", end.bestCry(0, 1), 0);
+        Due.tell(end, "!s");
+        DUE.is("999", end.bestCry(0, 0), 999);
+        DUE.is("999", end.bestCry(0, 1), 12);
     }
 
     /** A field that is not one's own makes it owe nothing, one's own is never paid for: to buy never gains. */
@@ -269,6 +282,16 @@ public final class ThoughtTest {
         DUE.is("which", x.sellOff(1, 1), 4);
         DUE.is("none", x.sellOff(2, 0), 0);
         DUE.is("none", x.sellOff(2, 1), 0);
+        FellInField still = land(0);
+        cries(still, 1, 0);
+        DUE.is("without falls", still.sellOff(0, 1), 0);
+        FellInField least = land(0);
+        least.fall(0, 0);
+        for (int cry = 0; cry < 12; cry++) {
+            least.cry(cry == 7 ? 1 : 0, 0);
+        }
+        Due.tell(least, "1");
+        DUE.is("owing one twelfth", least.sellOff(0, 1), 1);
         DUE.is("no such one", x.sellOff(6, 0), -1);
         DUE.is("no such one", x.sellOff(-1, 0), -1);
         DUE.is("no such what", x.sellOff(0, 2), -1);
@@ -297,6 +320,39 @@ public final class ThoughtTest {
         for (int[] w : new int[][] {{0, 0}, {11, 0}, {6, 0}, {60, 0}, {-1, 0}, {-12, 0}, {1, 1}, {1, 2}, {-1, 1}, {0, 3}, {0, -1},
             {1, 3}}) {
             DUE.is("cleared(" + w[0] + ", " + w[1] + ")", x.cleared(w[0], w[1]), VOID);
+        }
+        theFirstRingByNumbers();
+        ringsOfOne();
+    }
+
+    /** The rings 0, 4, 5 and 1, 4, 5 share what 4 owes 5. */
+    private static void theFirstRingByNumbers() {
+        int[][] debts = {{0, 4}, {5, 1}, {4, 5}, {1, 4}, {5, 0}};
+        FellInField x = new FellInField();
+        for (int i = 0; i < 5; i++) {
+            x.field(20 * i, 101);
+            x.mend(i, 4, debts[i][0]);
+            x.fall(20 * i, 100 * i);
+            x.cry(debts[i][1], 100 * i);
+        }
+        int[][] due = {{4, 0}, {45, 0}, {50, 0}, {14, 12}, {51, 12}};
+        for (int[] d : due) {
+            DUE.is("cleared(" + d[0] + ", 0)", x.cleared(d[0], 0), d[1]);
+        }
+    }
+
+    private static void ringsOfOne() {
+        FellInField x = land(0, 1, 2);
+        Due.tell(x, "1");
+        for (int i = 0; i < 3; i++) {
+            x.fall(20 * i, 0);
+        }
+        for (int i = 0; i < 12; i++) {
+            x.cry(Math.min(i, 3), 0);
+        }
+        int[][] due = {{1, 0}, {12, 0}, {20, 0}, {2, 0}, {21, 0}, {10, 0}, {3, 9}, {13, 9}};
+        for (int[] d : due) {
+            DUE.is("cleared(" + d[0] + ", 0)", x.cleared(d[0], 0), d[1]);
         }
     }
 }

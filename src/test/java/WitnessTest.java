@@ -125,6 +125,13 @@ public final class WitnessTest {
         earsAre(x, 0, -2, -2);
         Due.fill(x, 0, 1, 0, 0, 12, 10, 0, 12, 5, 10, 13);
         earsAre(x, 1, 45, 5);
+        long[] twenty = new long[60];
+        for (int i = 0; i < 60; i += 3) {
+            twenty[i] = i / 3;
+            twenty[i + 2] = 3 + i / 3;
+        }
+        Due.fill(x, 0, 1, twenty);
+        earsAre(x, 4, 0, 3);
         long[][] wrong = {{-1, 0, 5}, {20, 0, 5}, {0, -1, 5}, {0, 20, 5}, {0, 0}, {0, 0, 5, 0}, {0, 0, 5, 0, 20, 5}};
         for (long[] w : wrong) {
             Due.fill(x, 0, 1, w);
@@ -184,6 +191,11 @@ public final class WitnessTest {
         DUE.is("of another wish", x.whoseCry(0, 419, 0), 1);
         DUE.is("of another wish", x.whoseCry(0, 419, 1), 100);
         DUE.is("of its own field", x.whoseCry(0, 9, 0), 0);
+        Due.tell(x, "d=50&k=0&l=0");
+        DUE.is("wl 400", x.whoseCry(0, 400, 0), 1);
+        DUE.is("wl 400", x.whoseCry(0, 400, 1), 50);
+        x = year();
+        Due.fill(x, 0, 0, 4, -1);
         for (int wl : new int[] {-1, 40, 90, 600, 1000, Integer.MAX_VALUE, Integer.MIN_VALUE}) {
             DUE.is("whoseCry wl " + wl, x.whoseCry(0, wl, 0), -1);
         }
