@@ -165,25 +165,29 @@ public final class BodyTest {
     }
 
     private static void acts() {
+        for (int n = 0; n < 50; n++) {
+            for (int act = 0; act < 4; act++) {
+                actsOf(n, act);
+            }
+        }
+    }
+
+    private static void actsOf(int n, int act) {
         int[] xs = {0, 1, -1, 5, 100, Integer.MAX_VALUE, Integer.MIN_VALUE, 0x5a5a5a5a, -77};
         FellInField x = new FellInField();
-        for (int n = 0; n < 50; n++) {
-            x.body((n * 3 + n / 8) % 8);
+        for (int body = 0; body < 50; body++) {
+            x.body((body * 3 + body / 8) % 8);
         }
-        for (int n = 0; n < 50; n++) {
-            Star star = made((n * 3 + n / 8) % 8, n);
-            for (int act = 0; act < 4; act++) {
-                for (int with : xs) {
-                    RAN.clear();
-                    int want = acted(star, act, with);
-                    DUE.is("act(" + n + ", " + act + ", " + with + ")", x.act(n, act, with), want);
-                    DUE.is("ran", x.count(6), RAN.size());
-                    for (int i = 0; i < RAN.size(); i++) {
-                        DUE.is("trace", x.trace(i), i < 24 ? RAN.get(i) : -1);
-                    }
-                    DUE.is("trace behind", x.trace(RAN.size()), -1);
-                }
+        Star star = made((n * 3 + n / 8) % 8, n);
+        for (int with : xs) {
+            RAN.clear();
+            int want = acted(star, act, with);
+            DUE.is("act(" + n + ", " + act + ", " + with + ")", x.act(n, act, with), want);
+            DUE.is("ran", x.count(6), RAN.size());
+            for (int i = 0; i < RAN.size(); i++) {
+                DUE.is("trace", x.trace(i), i < 24 ? RAN.get(i) : -1);
             }
+            DUE.is("trace behind", x.trace(RAN.size()), -1);
         }
         DUE.is("trace(-1)", x.trace(-1), -1);
     }

@@ -1,6 +1,14 @@
+import java.io.IOException;
+import java.io.UncheckedIOException;
+import java.nio.file.Files;
+import java.nio.file.Path;
+
 /** What a test compares: prints every answer that is not as due, and ends with 1 if there was one. */
 final class Due {
+    private static final int MOST_PRINTED = 200;
+
     private final String test;
+    private String sentence = "";
     private int wrong;
     private int compared;
 
@@ -8,11 +16,28 @@ final class Due {
         this.test = test;
     }
 
+    static String document() {
+        try {
+            return Files.readString(Path.of("../shared/DOC.md"));
+        } catch (IOException e) {
+            throw new UncheckedIOException(e);
+        }
+    }
+
+    /** What follows tests this sentence of the document, which must stand there word by word. */
+    void says(String told) {
+        sentence = "";
+        holds("the document says: " + told, document().contains(told));
+        sentence = " (" + told + ")";
+    }
+
     void is(String call, long got, long want) {
         compared++;
         if (got != want) {
             wrong++;
-            System.out.println(test + ": " + call + " answered " + got + ", due is " + want);
+            if (wrong <= MOST_PRINTED) {
+                System.out.println(test + ": " + call + " answered " + got + ", due is " + want + sentence);
+            }
         }
     }
 

@@ -27,18 +27,19 @@ public final class LawTest {
         DUE.is("feed(0)", x.feed(0), 1);
         DUE.is("feed(255)", x.feed(255), 2);
         DUE.is("no such byte in a text", x.law(), -100);
-        DUE.is("a text of 119", Due.tell(x, "1" + "+1".repeat(59)), 1);
+        longText("1" + "+1".repeat(59), 60);
+        longText("10" + "+1".repeat(59), 69);
+        longText("-1" + "+1".repeat(59), 58);
+        longText("0?2;".repeat(29) + "!!!7", 0);
+        longText("1<2;".repeat(29) + "9999", 1);
+    }
+
+    private static void longText(String text, int counted) {
+        FellInField x = new FellInField();
         x.fall(0, 0);
         x.cry(0, 0);
-        DUE.is("counted", x.counts(0), 60);
-        DUE.is("a text of 120", Due.tell(x, "10" + "+1".repeat(59)), 1);
-        DUE.is("counted", x.counts(0), 69);
-        DUE.is("a text of 120, each byte a sign", Due.tell(x, "-1" + "+1".repeat(59)), 1);
-        DUE.is("counted", x.counts(0), 58);
-        DUE.is("a text of 120 lines", Due.tell(x, "0?2;".repeat(29) + "!!!7"), 1);
-        DUE.is("counted", x.counts(0), 0);
-        DUE.is("wholly numbers", Due.tell(x, "1<2;".repeat(29) + "9999"), 1);
-        DUE.is("counted", x.counts(0), 1);
+        DUE.is("law of " + text, Due.tell(x, text), 1);
+        DUE.is("counted by " + text, x.counts(0), counted);
     }
 
     private static void withoutText() {

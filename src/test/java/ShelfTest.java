@@ -47,16 +47,21 @@ public final class ShelfTest {
         DUE.is("n least", x.row(0, 0, Integer.MIN_VALUE), -14);
         DUE.is("still nothing", x.put(0, 0, 1), -11);
         for (int sort = 0; sort < 5; sort++) {
-            DUE.is("n 60", x.row(5, sort, 60), 1);
-            for (int i = 0; i < 60; i++) {
-                DUE.is("0 at first", x.element(5, i), 0);
-                x.put(5, i, 7);
-            }
-            DUE.is("n 0", x.row(4, sort, 0), 1);
-            DUE.is("no place", x.put(4, 0, 1), -13);
+            rowsOf(sort);
         }
+    }
+
+    private static void rowsOf(int sort) {
+        FellInField x = new FellInField();
+        DUE.is("n 60", x.row(5, sort, 60), 1);
+        for (int i = 0; i < 60; i++) {
+            DUE.is("0 at first", x.element(5, i), 0);
+            x.put(5, i, 7);
+        }
+        DUE.is("n 0", x.row(4, sort, 0), 1);
+        DUE.is("no place", x.put(4, 0, 1), -13);
         DUE.is("refused", x.row(5, 0, -1), -14);
-        DUE.is("stays", x.element(5, 59), 1);
+        DUE.is("stays", x.element(5, 59), sort == 4 ? 1 : 7);
         x.row(5, 2, 2);
         x.row(5, 2, 9);
         DUE.is("0 again", x.element(5, 8), 0);
