@@ -669,7 +669,7 @@ public final class FellInField {
             named[5] = s;
             int top = 0;
             boolean passed = false;
-            for (int at = 0; at < length; at++) {
+            for (int at = 0; at < length && top < stack.length; at++) {
                 int sign = code[at];
                 if (sign == LINE_ENDS) {
                     if (!passed) {
@@ -685,11 +685,11 @@ public final class FellInField {
                 } else if (sign == IF_SO) {
                     passed = stack[0] == 0;
                     top = 0;
-                } else if (sign == NOT_SO) {
+                } else if (sign == NOT_SO && top > 0) {
                     stack[top - 1] = stack[top - 1] == 0 ? 1 : 0;
-                } else if (sign == NEGATED) {
+                } else if (sign == NEGATED && top > 0) {
                     stack[top - 1] = -stack[top - 1];
-                } else {
+                } else if (top > 1) {
                     top--;
                     stack[top - 1] = ofTwo(sign, stack[top - 1], stack[top]);
                 }

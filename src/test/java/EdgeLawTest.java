@@ -93,6 +93,19 @@ public final class EdgeLawTest {
         run.tape("8").is("counts(0)", 7).are("law(); counts(0); count(3)", 1, 8, 0);
         run.tape("9)").are("law(); counts(0); count(3)", -101, 8, 0).keeps("law()", -100);
         run.tape("5").is("count(3)", 1).are("law(); counts(0)", 1, 5);
+        lawBehindOthers();
+    }
+
+    /** Of a former law nothing is left, however much longer it was, nor of a text with a fault between. */
+    private static void lawBehindOthers() {
+        String[] former = {"1+1+1+1+1+1+1", "1;2;3;4;5", "!!!!1+!!!!1", "1?2;1?3;1?4", "((1+2)*(3+4)-5)%(6+7)"};
+        for (String one : former) {
+            for (String other : former) {
+                Run run = Edge.empty(DUE).does("fall(0, 0); cry(0, 0)").law(one).law(other).law("0?5").is("counts(0)", 0);
+                run.law("0?5;0?6").is("counts(0)", 0).law("0?5;7").is("counts(0)", 7).law("9").is("counts(0)", 9);
+                run.law(one).tape(other + ")").is("law()", -100 - other.length()).law("0?5").is("counts(0)", 0);
+            }
+        }
     }
 
     private static void lawWithAFault() {
