@@ -4,7 +4,7 @@ import java.util.List;
 /** Promises 35 to 37: bodies, their acts and the trace, against the document's kinds as Java's own classes. */
 public final class BodyTest {
     private static final Due DUE = new Due("BodyTest");
-    private static final List<Integer> RAN = new ArrayList<>();
+    static final List<Integer> RAN = new ArrayList<>();
 
     interface Falls {
         int number();
@@ -121,7 +121,7 @@ public final class BodyTest {
         }
     }
 
-    private static Star made(int kind, int n) {
+    static Star made(int kind, int n) {
         Star star = switch (kind) {
             case 0 -> new Star();
             case 1 -> new Nail();
@@ -136,7 +136,7 @@ public final class BodyTest {
         return star;
     }
 
-    private static int acted(Star star, int act, int x) {
+    static int acted(Star star, int act, int x) {
         return switch (act) {
             case 0 -> star.falls(x);
             case 1 -> star.wishes(x);
